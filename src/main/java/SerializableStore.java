@@ -72,9 +72,6 @@ public final class SerializableStore {
         open[session] = true;
         this.serializable[session] = serializable;
         start[session] = commits;
-        readSet[session] = 0L;
-        writeCount[session] = 0;
-        saveCount[session] = 0;
         for (int key = 0; key < KEYS; key++) {
             snapshot[session * KEYS + key] = rows[key];
         }
@@ -273,7 +270,7 @@ public final class SerializableStore {
     }
 
     private boolean hasWritten(int session, int key) {
-        return (writeSet(session) & 1L << key) != 0L;
+        return (writeSet(session) & (1L << key)) != 0L;
     }
 
     private int writtenKeys(int session) {
@@ -301,9 +298,11 @@ public final class SerializableStore {
         return false;
     }
 
-    // No writes stay behind, so that a session without a transaction locks and counts no key.
+    // Nothing stays behind: a session without a transaction locks and counts no key, and begin
+    // finds its sets empty.
     private void endTransaction(int session) {
         open[session] = false;
+        readSet[session] = 0L;
         writeCount[session] = 0;
         saveCount[session] = 0;
     }

@@ -62,6 +62,9 @@ public final class PromiseTest {
             due("savepoints of a new object", x.savepoints(session), REFUSED);
         }
         due("crash of a new object", x.crash(), 0);
+        for (int key = 0; key < 64; key++) {
+            due("row after that crash", x.row(key), ABSENT);
+        }
         for (int group = 2; group <= 6; group++) {
             groupIs(group, group);
         }
@@ -261,6 +264,21 @@ public final class PromiseTest {
             due("next of no key", x.next(0, key), REFUSED);
         }
         due("next without a transaction", x.next(1, 0), REFUSED);
+    }
+
+    private static void promise4NextOfEachSession() {
+        test = "promise 4, each session";
+        SerializableStore x = new SerializableStore(6);
+        due("begin", x.begin(3, true), DONE);
+        put(x, 0, 0, 1);
+        for (int session = 0; session < 3; session++) {
+            due("begin", x.begin(session, true), DONE);
+        }
+        for (int session = 0; session < 4; session++) {
+            due("next of session " + session, x.next(session, 0), session == 3 ? 64 : 0);
+            due("next of session " + session, x.next(session, 1), 64);
+            due("next of session " + session, x.next(session, 63), 64);
+        }
     }
 
     private static void nextReads(int from, int key, boolean has) {
@@ -867,6 +885,25 @@ public final class PromiseTest {
         due("commit", x.commit(1), DONE);
     }
 
+    private static void promise10RollbackEmptiesTheReadSet() {
+        test = "promise 10, read set";
+        SerializableStore x = reader();
+        x.read(0, 40);
+        due("rollback", x.rollback(0), DONE);
+        due("begin", x.begin(0, true), DONE);
+        readSetHas(x, 40, false);
+        due("begin", x.begin(0, true), DONE);
+        x.read(0, 50);
+        due("commit", x.commit(0), DONE);
+        due("begin", x.begin(0, true), DONE);
+        due("write", x.write(0, 61, 1, true), DONE);
+        due("begin", x.begin(1, true), DONE);
+        x.read(1, 61);
+        due("write", x.write(1, 50, 1, true), DONE);
+        due("commit", x.commit(1), DONE);
+        due("commit of one that has read nothing", x.commit(0), DONE);
+    }
+
     private static void promise11Sync() {
         test = "promise 11";
         SerializableStore x = new SerializableStore(3);
@@ -929,6 +966,24 @@ public final class PromiseTest {
         due("the group counts anew", x.count(1), 6);
         due("crash", x.crash(), 6);
         due("row", x.row(1), 5);
+    }
+
+    private static void promise12CrashKeepsEveryDurableRow() {
+        test = "promise 12, every row";
+        SerializableStore x = new SerializableStore(2);
+        for (int key = 0; key < 64; key++) {
+            put(x, key % 4, key, key + 100);
+        }
+        due("begin", x.begin(0, false), DONE);
+        x.write(0, 0, 1, true);
+        x.write(0, 31, 1, true);
+        x.write(0, 32, 1, false);
+        x.write(0, 63, 1, true);
+        due("commit", x.commit(0), DONE);
+        due("crash", x.crash(), 64);
+        for (int key = 0; key < 64; key++) {
+            due("row " + key, x.row(key), key + 100);
+        }
     }
 
     private static void promise12CrashGivesNumbersAnew() {
@@ -1107,6 +1162,7 @@ public final class PromiseTest {
         promise3ReadSet();
         promise3ReadSetAndOwnWrites();
         promise4Next();
+        promise4NextOfEachSession();
         promise4NextReads();
         promise5Sum();
         promise5SumReads();
@@ -1129,8 +1185,10 @@ public final class PromiseTest {
         promise9FailureBeforeFull();
         promise9FailureLeavesNoArrow();
         promise10Rollback();
+        promise10RollbackEmptiesTheReadSet();
         promise11Sync();
         promise12Crash();
+        promise12CrashKeepsEveryDurableRow();
         promise12CrashGivesNumbersAnew();
         promise12CrashForgets();
         promise13Row();
