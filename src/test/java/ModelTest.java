@@ -7,7 +7,7 @@ import java.util.TreeSet;
 // Long runs of calls, drawn from fixed seeds, answered side by side by the program and by a
 // model that keeps every commit and follows the document's terms word by word.
 public final class ModelTest {
-    private static final int RUNS = 1500;
+    private static final int RUNS = 2400;
     private static final int CALLS = 512;
 
     private static final class Write {
@@ -335,6 +335,9 @@ public final class ModelTest {
         new Kind(40, 100, 20, 40, 2, 0, true),
         new Kind(8, 30, 50, 4, 20, 4, false),
         new Kind(16, 50, 70, 3, 4, 4, false),
+        // Much undone, so that reads of own writes that are gone at the commit are met.
+        new Kind(8, 100, 20, 15, 35, 0, false),
+        new Kind(4, 100, 20, 10, 30, 0, false),
     };
 
     private static final int[] WRONG = {-1, 64, 4, 65, -64, Integer.MIN_VALUE, Integer.MAX_VALUE, 1 << 16, 7};
